@@ -1015,7 +1015,8 @@ public final class LetterHeirs {
 
         /** A FAULT at the current token; false, so that a reader can end with it. */
         boolean wrong(int fault) {
-            tape.wrong(fault, places[current]);
+            tape.fault = fault;
+            tape.faultPlace = places[current];
             return false;
         }
 
@@ -1101,18 +1102,17 @@ public final class LetterHeirs {
             return true;
         }
 
+        /** C. Who calls it stands deep already: the comparison is read here, not by one more call. */
         private boolean readClaim(int open) {
             boolean isNot = tokens.isWord(NOT);
-            if (!isNot && !tokens.isSign('(')) return readComparison();
-            if (open >= MOST_OPEN) return tokens.wrong(3);
-            tokens.skip();
-            if (!isNot) return readCondition(open + 1) && tokens.skipSign(')');
-            if (!readClaim(open + 1)) return false;
-            draft.add(Law.NOT);
-            return true;
-        }
-
-        private boolean readComparison() {
+            if (isNot || tokens.isSign('(')) {
+                if (open >= MOST_OPEN) return tokens.wrong(3);
+                tokens.skip();
+                if (!isNot) return readCondition(open + 1) && tokens.skipSign(')');
+                if (!readClaim(open + 1)) return false;
+                draft.add(Law.NOT);
+                return true;
+            }
             if (!readValue()) return false;
             int operator = Law.EQUAL;
             if (tokens.isSign('<')) {

@@ -31,6 +31,8 @@ public final class PromiseTests {
         p21At();
         p22Book();
         p23Weddings();
+        p23Order();
+        fullHouse();
         p24WhenCan();
         p25Hand();
         p26Inherit();
@@ -41,6 +43,7 @@ public final class PromiseTests {
         p31Dumb();
         p32Undo();
         p33Image();
+        p33All();
         p34Look();
         t.close("PromiseTests");
     }
@@ -906,6 +909,45 @@ public final class PromiseTests {
         weddingsAre("by the child's", y, 4, 1, 1, 1, 3, NONE, NONE);
     }
 
+    /** Twelve PEOPLE, of whom nobody is kin: every pair can wed. */
+    private static void p23Order() {
+        LetterHeirs x = founders(12);
+        x.own(0, 10);
+        x.own(1, 11);
+        Checks.deed(x, "a");
+        Checks.deed(x, "ab");
+        weddingsAre("of twelve", x, 0, 0, 1, 0, 10, NONE, NONE);
+        weddingsAre("none of twelve", x, 0, 1, NONE, NONE, NONE, NONE, NONE);
+        x.image(true);
+        x.lend(1, 0, 9, 0);
+        weddingsAre("with a loan", x, 0, 1, 1, 0, 10, NONE, NONE);
+        x.image(false);
+        x.own(2, 9);
+        x.set(4, 0, 3);
+        x.wed(10, 11);
+        Checks.deed(x, "abc");
+        // 10 and 11 have each other; 9 may wed 0
+        weddingsAre("no second way", x, 0, 2, NONE, NONE, NONE, NONE, NONE);
+        x.image(false);
+        LetterHeirs y = founders(10);
+        y.person(4, 5, 0);
+        y.person(6, 7, 0);
+        y.own(0, 8);
+        y.own(1, 9);
+        Checks.deed(y, "ab");
+        y.set(4, 0, 3);
+        // 10 is near 8 by 4 or 5 or himself, near 9 by another of these
+        weddingsAre("the first two", y, 10, 0, 2, 4, 8, 5, 9);
+        y.wed(0, 4);
+        // 4 has a spouse: 5 or 10 must wed; 0 can't again
+        weddingsAre("without one of them", y, 10, 0, 2, 5, 8, 9, 10);
+        weddingsAre("the lesser person of the second is above", y, 5, 0, 2, 5, 8, 9, 10);
+        weddingsAre("of another house", y, 6, 0, 2, 6, 8, 7, 9);
+        bury(y, 7);
+        weddingsAre("of a smaller one", y, 6, 0, 2, 6, 8, 9, 11);
+        weddingsAre("of the child", y, 11, 0, 2, 6, 8, 9, 11);
+    }
+
     private static void p24WhenCan() {
         LetterHeirs x = founders(4);
         x.days(2);
@@ -943,6 +985,38 @@ public final class PromiseTests {
         t.due("24 day stays", x.look(2), 2);
         bury(x, 3);
         t.due("24 does not live", x.whenCan(3, 0), NONE);
+    }
+
+    /** Twelve PEOPLE, all LETTERS and DEEDS and lines that there may be: the last of each counts, too. */
+    private static void fullHouse() {
+        LetterHeirs x = founders(12);
+        for (int letter = 0; letter < 28; letter++) x.own(letter, 11 - letter % 12);
+        for (int deed = 0; deed < 8; deed++) Checks.deed(x, deed < 7 ? "abcdefgh" : "lz");
+        t.due("19 who can write the last one's", x.letter(0, 3), 2048);
+        t.due("19 value", x.letter(11, 5), 1);
+        t.due("19 value of one more", x.letter(25, 5), 1);
+        t.due("20 signers", x.deed(0, 5), 4080);
+        t.due("20 signers of the last", x.deed(7, 5), 1025);
+        t.due("20 needed", x.deed(7, 7), 1025);
+        t.due("20 alone", x.deed(7, 6), 0);
+        t.due("25 hand", x.hand(1 | 1 << 12), 2048);
+        t.due("28 silent", x.silent(11), 0);
+        t.due("30 best", x.best(11, 0), 0);
+        t.due("30 of the least one", x.best(0, 0), 10);
+        t.due("30 how many", x.best(0, 1), 1);
+        t.due("31 dumb", x.dumb(), 0);
+        t.due("24 when", x.whenCan(11, 7), NONE);
+        t.due("15 all sign", x.sign(0, 4095), 0);
+        for (int i = 0; i < 12; i++) Checks.will(x, i, "rest to " + (i == 11 ? 0 : i + 1) + ";");
+        for (int i = 0; i < 11; i++) x.set(0, i, 1);
+        t.due("16 eleven die", x.days(1), 11);
+        t.due("16 the last has all", x.of(11, 9), 268435455);
+        // 28 told; then 2, 4 .. 16 by the first eight, 19, 22, 25
+        t.due("22 lines", x.look(5), 166);
+        t.due("31 he is not dumb", x.dumb(), 0);
+        t.due("25 one hand", x.hand(268435455), 2048);
+        t.due("30 nobody else", x.best(11, 0), NONE);
+        t.due("28 all is lost with him", x.silent(11), 255);
     }
 
     private static void p25Hand() {
@@ -1275,6 +1349,60 @@ public final class PromiseTests {
         x.days(1);
         t.due("33 back to it", x.image(false), true);
         t.due("33 the later one", x.look(2), 3);
+    }
+
+    /** What is told anew after the taking is as it was, row by row. */
+    private static void p33All() {
+        LetterHeirs x = founders(4);
+        x.own(0, 0);
+        x.own(1, 0);
+        x.own(2, 1);
+        x.set(1, 0, 8);
+        x.set(2, 0, 9);
+        Checks.deed(x, "abc");
+        Checks.law(x, "heir 1 when letter=1; heir skill+owns*2;");
+        Checks.will(x, 0, "leave \"a\" to 2 if 1;");
+        x.sign(0, 1);
+        x.give(1, 2);
+        x.image(true);
+        x.undo();
+        x.give(1, 3);
+        t.due("33 a line since", x.book(3, 2), 3);
+        x.sign(0, 15);
+        x.set(1, 0, 0);
+        x.set(2, 0, 99);
+        x.set(0, 3, 5);
+        Checks.law(x, "heir 4 - 3 * 2 + 5 when day < 9 and owns > 7; heir 6; heir 7;");
+        Checks.will(x, 0, "leave \"b\" to 1 if 2;rest to 3;");
+        x.lend(2, 3, 4, 10);
+        x.image(false);
+        t.due("33 the line as it was", x.book(3, 2), 2);
+        t.due("33 lines", x.look(5), 4);
+        t.due("33 owner of b", x.letter(1, 0), 2);
+        t.due("33 owner of a", x.letter(0, 0), 0);
+        t.due("33 frail", x.of(0, 4), 8);
+        t.due("33 skill", x.of(0, 5), 9);
+        t.due("33 dies", x.of(3, 3), NONE);
+        t.due("33 coin", x.of(3, 6), 100);
+        t.due("33 loan", x.letter(2, 1), NONE);
+        t.due("33 forged", x.deed(0, 3), 4);
+        t.due("33 sign", x.at(0, 2), 2);
+        t.due("33 law, first line", x.worth(1, 0, 1), 1);
+        t.due("33 law, second line", x.worth(1, 0, 2), 11);
+        t.due("33 will", x.inherit(0, 0, 0), 2);
+        t.due("33 by the will", x.inherit(0, 0, 1), 1);
+        bury(x, 1);
+        t.due("33 with who is behind if", x.inherit(0, 0, 1), 0);
+        t.due("33 a new one", x.person(0, 2, 1), 4);
+        x.set(1, 4, 9999);
+        x.set(2, 4, 99);
+        x.image(false);
+        x.days(1);
+        t.due("33 another new one", x.person(NONE, NONE, 2), 4);
+        t.due("33 is not frail", x.of(4, 4), 0);
+        t.due("33 has no skill", x.of(4, 5), 0);
+        t.due("33 is born that day", x.of(4, 2), 1);
+        t.due("33 is nobody's child", x.kin(4, 0), 99);
     }
 
     private static void p34Look() {
