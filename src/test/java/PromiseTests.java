@@ -265,6 +265,8 @@ public final class PromiseTests {
         lawFault("heir 1", 1, 6);
         lawFault("heirs 1;", 1, 0);
         lawFault("hei 1;", 1, 0);
+        lawFault("heirz 1;", 1, 0);
+        lawFault("aheir 1;", 1, 0);
         lawFault(" when 1;", 1, 1);
         lawFault("heir heir;", 1, 5);
         lawFault("heir leave;", 1, 5);
@@ -298,6 +300,10 @@ public final class PromiseTests {
         lawFault("heir 1 when not 1=1 and " + Checks.times("(", 8) + "not 1=1", 3, 32);
         LetterHeirs x = founders(2);
         Checks.law(x, "heir 1;heir 2;");
+        for (int i = 0; i < 9; i++) {
+            t.due("8 a long law anew", Checks.law(x, "heir 1" + Checks.times("+1*2", 60) + "+" + i + ";"), 1);
+            t.due("8 its worth", x.worth(0, 1, 0), 121 + i);
+        }
         t.due("8 an empty law", Checks.law(x, ""), 0);
         t.due("8 is the law", x.look(7), 0);
     }

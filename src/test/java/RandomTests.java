@@ -58,9 +58,20 @@ public final class RandomTests {
         }
     }
 
+    /** A number that often can't be: just outside, or far. */
+    private int wild(int n) {
+        int[] far = {Integer.MIN_VALUE, Integer.MIN_VALUE + 1, Integer.MAX_VALUE, Integer.MAX_VALUE - 1, 1 << 28, 1 << 12, 100000, 10000};
+        return below(3) == 0 ? far[below(far.length)] : below(n) - 2;
+    }
+
+    /** Mostly the one that is likely. */
+    private int orWild(int likely) {
+        return below(60) == 0 ? wild(102) : likely;
+    }
+
     /** Mostly one who LIVES. */
     private int person() {
-        if (below(40) == 0) return below(15) - 2;
+        if (below(40) == 0) return wild(15);
         int one = below(Math.max(1, m.look(0)));
         for (int i = 0; i < 3 && (m.look(1) >> one & 1) == 0; i++) one = below(Math.max(1, m.look(0)));
         return one;
@@ -73,17 +84,17 @@ public final class RandomTests {
     }
 
     private int letter() {
-        return below(40) == 0 ? below(31) - 2 : below(letters);
+        return below(40) == 0 ? wild(31) : below(letters);
     }
 
     private int deed() {
-        return below(30) == 0 ? below(10) - 1 : below(Math.max(1, m.look(4)));
+        return below(30) == 0 ? wild(11) : below(Math.max(1, m.look(4)));
     }
 
     private void newPerson() {
         int a = m.look(0) == 0 || below(3) > 0 ? -1 : person();
         int b = m.look(0) == 0 || below(3) > 0 ? -1 : person();
-        int coin = below(20) == 0 ? 99990 + below(15) : below(200);
+        int coin = orWild(below(20) == 0 ? 99990 + below(15) : below(200));
         due("person(" + a + ", " + b + ", " + coin + ")", x.person(a, b, coin), m.person(a, b, coin));
     }
 
@@ -105,11 +116,11 @@ public final class RandomTests {
                 int coin = below(2) == 0 ? below(200) : below(3) * 49999;
                 int[] likely = {m.look(2) + below(60), frail, below(101), coin, below(5), 0, 0, 0};
                 int v = likely[what < 0 ? 5 : what];
-                if (below(10) == 0) v = below(5) - 2;
+                if (below(10) == 0) v = wild(5);
                 due("set(" + what + ", " + p + ", " + v + ")", x.set(what, p, v), m.set(what, p, v));
             }
             case 4 -> {
-                int v = below(4);
+                int v = orWild(below(4));
                 if (below(2) == 0) due("set(4, 0, " + v + ")", x.set(4, 0, v), m.set(4, 0, v));
             }
             default -> own(letter(), below(6) == 0 ? -1 : p);
@@ -117,7 +128,7 @@ public final class RandomTests {
     }
 
     private void texts() {
-        int which = below(25) == 0 ? below(5) - 1 : below(3);
+        int which = orWild(below(25) == 0 ? below(5) - 1 : below(3));
         String text = which == 0 ? lawText() : which == 1 ? willText() : deedText();
         if (below(3) == 0) text = spoilt(text);
         if (text.length() > 400) text = text.substring(0, 400);
@@ -129,7 +140,7 @@ public final class RandomTests {
             }
             due("feed", x.feed(n[0], n[1], n[2], n[3], n[4]), m.feed(n[0], n[1], n[2], n[3], n[4]));
         }
-        int end = below(60) == 0 ? text.length() + below(40) - 20 : text.length();
+        int end = below(60) == 0 ? text.length() + below(40) - 20 : orWild(text.length());
         due("end(" + end + ")", x.end(end), m.end(end));
         int p = person();
         due("text(" + which + ", " + p + ") of '" + text + "'", x.text(which, p), m.text(which, p));
@@ -264,8 +275,8 @@ public final class RandomTests {
                 due("part(" + a + ", " + c + ")", x.part(a, c), m.part(a, c));
             }
             case 2 -> {
-                int n = below(8) == 0 ? below(102) : 1 + below(9);
-                int coins = below(2) == 0 ? 0 : below(110) - 2;
+                int n = orWild(below(8) == 0 ? below(102) : 1 + below(9));
+                int coins = orWild(below(2) == 0 ? 0 : below(110) - 2);
                 due("lend(" + l + ", " + b + ", " + n + ", " + coins + ")", x.lend(l, b, n, coins), m.lend(l, b, n, coins));
             }
             case 3 -> due("give(" + l + ", " + b + ")", x.give(l, b), m.give(l, b));
@@ -275,11 +286,11 @@ public final class RandomTests {
             }
             case 5, 6 -> {
                 int d = deed();
-                int set = below(20) == 0 ? below(1 << 14) - 4 : m.look(1) & below(4096);
+                int set = orWild(below(20) == 0 ? below(1 << 14) - 4 : m.look(1) & below(4096));
                 due("sign(" + d + ", " + set + ")", x.sign(d, set), m.sign(d, set));
             }
             default -> {
-                int n = below(30) == 0 ? below(103) - 1 : 1 + below(3);
+                int n = orWild(below(30) == 0 ? below(103) - 1 : 1 + below(3));
                 due("days(" + n + ")", x.days(n), m.days(n));
             }
         }
@@ -296,7 +307,7 @@ public final class RandomTests {
         int p = person();
         int q = person();
         int l = letter();
-        int what = below(14) - 1;
+        int what = orWild(below(14) - 1);
         switch (below(8)) {
             case 0 -> due("of(" + p + ", " + what + ")", x.of(p, what), m.of(p, what));
             case 1 -> due("kin(" + p + ", " + q + ")", x.kin(p, q), m.kin(p, q));
@@ -306,7 +317,7 @@ public final class RandomTests {
                 due("deed(" + d + ", " + what % 10 + ")", x.deed(d, what % 10), m.deed(d, what % 10));
             }
             case 4 -> {
-                int i = below(3) == 0 ? below(202) - 1 : below(Math.max(1, m.look(5)));
+                int i = orWild(below(3) == 0 ? below(202) - 1 : below(Math.max(1, m.look(5))));
                 due("book(" + i + ", " + what % 7 + ")", x.book(i, what % 7), m.book(i, what % 7));
             }
             case 5 -> due("trace(" + l + ", " + what % 5 + ")", x.trace(l, what % 5), m.trace(l, what % 5));
@@ -323,14 +334,14 @@ public final class RandomTests {
         int q = person();
         int l = letter();
         int d = deed();
-        int what = below(6) - (below(10) == 0 ? 1 : 0);
+        int what = orWild(below(6) - (below(10) == 0 ? 1 : 0));
         switch (below(9)) {
             case 0 -> {
-                for (int i = what; i < 5; i++) due("weddings(" + p + ", " + d + ", " + i + ")", x.weddings(p, d, i), m.weddings(p, d, i));
+                for (int i = what; i < 5 && i > -3; i++) due("weddings(" + p + ", " + d + ", " + i + ")", x.weddings(p, d, i), m.weddings(p, d, i));
             }
             case 1 -> due("whenCan(" + p + ", " + d + ")", x.whenCan(p, d), m.whenCan(p, d));
             case 2 -> {
-                int set = below(10) == 0 ? below(1 << 30) - 5 : 1 << below(letters) | 1 << below(letters);
+                int set = orWild(below(10) == 0 ? below(1 << 30) - 5 : 1 << below(letters) | 1 << below(letters));
                 due("hand(" + set + ")", x.hand(set), m.hand(set));
             }
             case 3, 4 -> {
