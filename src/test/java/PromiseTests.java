@@ -33,6 +33,7 @@ public final class PromiseTests {
         p23Weddings();
         p23Order();
         fullHouse();
+        p20Twelve();
         p24WhenCan();
         p25Hand();
         p26Inherit();
@@ -242,6 +243,7 @@ public final class PromiseTests {
         lawIs("heir 1-7/2*2;", 1, -5);
         lawIs("heir 7*3/2;", 1, 10);
         lawIs("heir 1-2*3/4/1+1;", 1, 1);
+        lawIs("heir1" + Checks.times("+1", 197) + ";", 1, 198);
         lawIs("heir 9999*9999*9999;", 1, 9999 * 9999 * 9999);
         lawIs("heir letter;", 1, 3);
         lawIs("heir coin when coin=100;", 1, 100);
@@ -1023,6 +1025,21 @@ public final class PromiseTests {
         t.due("25 one hand", x.hand(268435455), 2048);
         t.due("30 nobody else", x.best(11, 0), NONE);
         t.due("28 all is lost with him", x.silent(11), 255);
+    }
+
+    /** A DEED that all twelve must sign. */
+    private static void p20Twelve() {
+        LetterHeirs x = founders(12);
+        for (int letter = 0; letter < 12; letter++) x.own(letter, letter);
+        Checks.deed(x, "abcdefghijkl");
+        Checks.deed(x, "bcdefghijkl");
+        t.due("20 all twelve", x.deed(0, 5), 4095);
+        t.due("20 all are needed", x.deed(0, 7), 4095);
+        t.due("20 eleven", x.deed(1, 5), 4094);
+        t.due("20 eleven are needed", x.deed(1, 7), 4094);
+        bury(x, 3);
+        t.due("20 no longer", x.deed(0, 5), NONE);
+        t.due("20 nobody is needed then", x.deed(0, 7), 0);
     }
 
     private static void p25Hand() {
