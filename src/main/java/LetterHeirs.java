@@ -919,7 +919,7 @@ public final class LetterHeirs {
         /** Where the next one may begin. */
         private int cutOne(int place) {
             int sign = tape.bytes[place];
-            if (isSmall(sign)) return cutWord(place);
+            if (isOfWord(sign)) return cutWord(place);
             if (isDigit(sign)) return cutNumber(place);
             if (sign == '"' && signs.indexOf('"') >= 0) return cutRow(place);
             keep(signs.indexOf((char) sign) >= 0 ? SIGN : OTHER, sign, place);
@@ -928,7 +928,7 @@ public final class LetterHeirs {
 
         private int cutWord(int start) {
             int end = start;
-            while (end < tape.length && isSmall(tape.bytes[end])) end++;
+            while (end < tape.length && isOfWord(tape.bytes[end])) end++;
             int word = wordAt(start, end);
             keep(word == NONE ? OTHER : WORD, word, start);
             return end;
@@ -980,8 +980,9 @@ public final class LetterHeirs {
             count++;
         }
 
-        private static boolean isSmall(int sign) {
-            return sign >= 'a' && sign <= 'z';
+        /** A capital stands together with small letters, too, though no KEYWORD has one. */
+        private static boolean isOfWord(int sign) {
+            return sign >= 'a' && sign <= 'z' || sign >= 'A' && sign <= 'Z';
         }
 
         private static boolean isDigit(int sign) {

@@ -697,7 +697,7 @@ final class Model {
     private static final class Parser {
         private static final String LAW_WORDS = " heir when or and not letter vowel age kin child spouse owns skill coin day ";
         private static final String WILL_WORDS = " leave to if rest ";
-        private static final Pattern TOKEN = Pattern.compile("[a-z]+|[0-9]+|\"[^\"]*\"?|(?s:.)");
+        private static final Pattern TOKEN = Pattern.compile("[A-Za-z]+|[0-9]+|\"[^\"]*\"?|(?s:.)");
         private final List<String> tokens = new ArrayList<>();
         private final List<Integer> places = new ArrayList<>();
         private final int length;
@@ -705,11 +705,11 @@ final class Model {
 
         Parser(String text, boolean law) {
             length = text.length();
-            Matcher m = (law ? Pattern.compile("[a-z]+|[0-9]+|(?s:.)") : TOKEN).matcher(text);
+            Matcher m = (law ? Pattern.compile("[A-Za-z]+|[0-9]+|(?s:.)") : TOKEN).matcher(text);
             for (int from = 0; m.find(from); from = m.end()) {
                 String token = m.group();
                 if (token.equals(" ") || token.equals("\n")) continue;
-                boolean word = token.charAt(0) >= 'a' && token.charAt(0) <= 'z';
+                boolean word = token.matches("[A-Za-z]+");
                 boolean known = !word || (law ? LAW_WORDS : WILL_WORDS).contains(" " + token + " ");
                 boolean number = token.charAt(0) >= '0' && token.charAt(0) <= '9';
                 tokens.add(known && !(number && token.length() > 4) ? token : "?");

@@ -3,7 +3,7 @@ public final class RandomTests {
     private static final int RUNS = 1500;
     private static final int CALLS = 500;
     private static final String ALPHABET = "abcdefghijklmnopqrstuvwxyz.,";
-    private static final String SPOILERS = " \n;+-*/()<=>\"0123456789abkn.,!";
+    private static final String SPOILERS = " \n;+-*/()<=>\"0123456789abkn.,!AMXZ@[`{";
     private static final Checks t = new Checks();
 
     private LetterHeirs x = new LetterHeirs();
