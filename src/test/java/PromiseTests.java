@@ -33,6 +33,7 @@ public final class PromiseTests {
         p23Weddings();
         p23Order();
         fullHouse();
+        askedFirst();
         p20Twelve();
         p24WhenCan();
         p25Hand();
@@ -69,6 +70,7 @@ public final class PromiseTests {
         t.due("1 of", x.of(0, 0), -2);
         t.due("1 letter", x.letter(27, 0), NONE);
         t.due("1 loan", x.letter(27, 1), NONE);
+        t.due("1 last day", x.letter(27, 2), NONE);
         t.due("1 undo", x.undo(), false);
         t.due("1 image", x.image(false), false);
         t.due("1 fault", x.fault(0), 0);
@@ -211,6 +213,23 @@ public final class PromiseTests {
         x.text(2, 0);
         t.due("7 deed of three", x.deed(0, 1), 3);
         t.due("7 empty by text()", x.end(1), false);
+        Checks.tape(x, "heir 12;");
+        x.end(6);
+        t.due("7 the rest is no part of the law", x.text(0, 0), NONE);
+        t.due("7 it ends there", x.fault(1), 6);
+        Checks.tape(x, "heirs");
+        x.end(4);
+        t.due("7 nor of a keyword", x.text(0, 0), NONE);
+        t.due("7 which ends there", x.fault(1), 4);
+        x.person(NONE, NONE, 0);
+        Checks.tape(x, "leave \"\"");
+        x.end(7);
+        t.due("7 nor of a row", x.text(1, 0), NONE);
+        t.due("7 which does not end", x.fault(1), 7);
+        Checks.tape(x, "heir 12345");
+        x.end(9);
+        t.due("7 nor of a number", x.text(0, 0), NONE);
+        t.due("7 of four digits", x.fault(1), 9);
     }
 
     private static void lawFault(String text, int fault, int place) {
@@ -256,6 +275,12 @@ public final class PromiseTests {
         lawIs("heir 1 when not not 1=1;", 1, 1);
         lawIs("heir 1 when not 1=2 and not 2=3;", 1, 1);
         lawIs("heir 3 when 1=2 or 1=2 or 3=3;", 1, 3);
+        lawIs("heir 3 when 3=3 or 1=2 or 1=2;", 1, 3);
+        lawIs("heir 3 when 1=2 or 3=3 or 1=2;", 1, 3);
+        lawIs("heir 3 when 1=2 or 3=3 and 4=4 or 1=2 or 2=3;", 1, 3);
+        lawIs("heir 3 when 1=2 and 3=3;", 1, 0);
+        lawIs("heir 3 when 1=2 and 3=3 and 4=4;", 1, 0);
+        lawIs("heir 3 when 1=2 and 3=3 or 1=2 and 4=4;", 1, 0);
         lawIs("heir 3 when 1+1<1*3 and 0-5/2=0-2;", 1, 3);
         lawIs(Checks.times("heir 4 when 1=2;", 15) + "heir 8;", 16, 8);
         lawIs("heir 1 when " + Checks.times("(", 8) + "1=1" + Checks.times(")", 8) + ";", 1, 1);
@@ -282,6 +307,17 @@ public final class PromiseTests {
         for (char beside : new char[] {'@', '[', '`', '{', (char) 233}) lawFault("heir" + beside + " 1;", 1, 4);
         lawFault(" when 1;", 1, 1);
         lawFault("heir heir;", 1, 5);
+        lawFault("heir ;", 1, 5);
+        lawFault("heir 1+;", 1, 7);
+        lawFault("heir 1-;", 1, 7);
+        lawFault("heir 1*;", 1, 7);
+        lawFault("heir 1/;", 1, 7);
+        lawFault("heir 1 when;", 1, 11);
+        lawFault("heir 1 when 1=;", 1, 14);
+        lawFault("heir 1 when 1=1 or;", 1, 18);
+        lawFault("heir 1 when 1=1 and;", 1, 19);
+        lawFault("heir 1 when not;", 1, 15);
+        lawFault("heir 1 when (;", 1, 13);
         lawFault("heir leave;", 1, 5);
         lawFault("heir 12345;", 1, 5);
         lawFault("heir 1 2;", 1, 7);
@@ -317,6 +353,9 @@ public final class PromiseTests {
             t.due("8 a long law anew", Checks.law(x, "heir 1" + Checks.times("+1*2", 60) + "+" + i + ";"), 1);
             t.due("8 its worth", x.worth(0, 1, 0), 121 + i);
         }
+        t.due("8 two lines", Checks.law(x, "heir 1 when 1=2;heir 2;"), 2);
+        t.due("8 a shorter one anew", Checks.law(x, "heir 1 when 1=2;"), 1);
+        t.due("8 the longer one is gone", x.worth(0, 1, 0), 0);
         t.due("8 an empty law", Checks.law(x, ""), 0);
         t.due("8 is the law", x.look(7), 0);
     }
@@ -340,6 +379,11 @@ public final class PromiseTests {
         t.due("8 lines", x.of(1, 11), 2);
         t.due("8 others have none", x.of(0, 11), 0);
         t.due("8 alike signs", Checks.will(x, 1, " leave \"aa\" to 2 ; "), 1);
+        x.own(0, 1);
+        t.due("8 two lines", Checks.will(x, 1, "leave \"b\" to 2;rest to 3;"), 2);
+        t.due("8 the second one's heir", x.inherit(1, 0, 0), 3);
+        t.due("8 a shorter one anew", Checks.will(x, 1, "leave \"b\" to 2;"), 1);
+        t.due("8 the longer one is gone", x.inherit(1, 0, 0), NONE);
         t.due("8 twelve", Checks.will(x, 1, Checks.times("rest to 0;", 12)), 12);
         t.due("8 no line", Checks.will(x, 1, ""), 0);
         t.due("8 empty", x.of(1, 11), 0);
@@ -1046,6 +1090,30 @@ public final class PromiseTests {
         t.due("28 all is lost with him", x.silent(11), 255);
     }
 
+    /** Each asked first of all, when nothing else was thought of. */
+    private static void askedFirst() {
+        // 1 could write "a"; with b only who has a, too, could write "ab"
+        t.due("19 value", oneOwner().letter(0, 5), 1);
+        t.due("19 value of what nobody can", oneOwner().letter(1, 5), 1);
+        t.due("20 signers", oneOwner().deed(0, 5), 1);
+        t.due("20 alone", oneOwner().deed(0, 6), 1);
+        t.due("20 needed", oneOwner().deed(0, 7), 1);
+        t.due("25 hand", oneOwner().hand(1), 1);
+        t.due("28 silent", oneOwner().silent(0), 1);
+        t.due("30 best", oneOwner().best(0, 1), 1);
+        t.due("31 dumb", oneOwner().dumb(), 2);
+    }
+
+    /** The letter a is that of 0; of three deeds all want it, two of them another one, too. */
+    private static LetterHeirs oneOwner() {
+        LetterHeirs x = founders(2);
+        x.own(0, 0);
+        Checks.deed(x, "a");
+        Checks.deed(x, "ab");
+        Checks.deed(x, "ac");
+        return x;
+    }
+
     /** A DEED that all twelve must sign. */
     private static void p20Twelve() {
         LetterHeirs x = founders(12);
@@ -1115,6 +1183,16 @@ public final class PromiseTests {
         t.due("26 a later line for a", x.inherit(0, 0, 0), 1);
         t.due("26 no line for c: the law", x.inherit(0, 2, 0), 4);
         t.due("26 not by the will", x.inherit(0, 2, 1), 0);
+        LetterHeirs y = founders(2);
+        y.own(0, 0);
+        y.days(3);
+        y.person(NONE, NONE, 0);
+        y.days(2);
+        Checks.law(y, "heir 1 when age=2;");
+        t.due("26 by his birthday", y.inherit(0, 0, 0), 2);
+        y.own(0, 2);
+        Checks.law(y, "heir 1;");
+        t.due("26 of all the least", y.inherit(2, 0, 0), 0);
         Checks.law(x, "heir 0-owns;");
         t.due("26 worth not above 0", x.inherit(0, 2, 0), NONE);
         t.due("26 does not live", x.inherit(3, 2, 0), -2);
@@ -1215,6 +1293,12 @@ public final class PromiseTests {
         t.due("29 below", x.trace(3, -1), NONE);
         t.due("29 another", x.trace(4, 1), 3);
         t.due("29 never changed", x.trace(5, 0), NONE);
+        x.give(4, 0);
+        t.due("29 once more", x.trace(4, 2), 5);
+        t.due("19 changes", x.letter(4, 4), 3);
+        x.undo();
+        t.due("29 undone", x.trace(4, 2), NONE);
+        t.due("19 changes undone", x.letter(4, 4), 2);
         t.due("29 letter 28", x.trace(28, 0), NONE);
         t.due("29 letter -1", x.trace(-1, 0), NONE);
     }

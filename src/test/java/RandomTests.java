@@ -177,7 +177,7 @@ public final class RandomTests {
 
     private String condition(int depth) {
         StringBuilder s = new StringBuilder();
-        for (int i = 1 + below(3) / 2; i > 0; i--) {
+        for (int i = 1 + (below(3) == 0 ? below(5) : 0); i > 0; i--) {
             if (s.length() > 0) s.append(blank()).append(pick("or", "and")).append(blank());
             int kind = depth > 9 ? 0 : below(5);
             if (kind == 1) s.append("not").append(blank()).append(claim(depth + 1));
