@@ -3,14 +3,25 @@ final class Checks {
     private static final int BLANKS = 0x20202020;
     private int passed = 0;
     private int failed = 0;
+    // What stands before each call that is told: the document's sentence, if one was said.
+    private String sentence = "";
+
+    /** The sentence of the document that the calls behind it are held against. */
+    void says(String words) {
+        sentence = "\"" + words + "\" | ";
+    }
 
     void due(String call, long got, long want) {
-        if (got == want) {
+        due(call, String.valueOf(got), String.valueOf(want));
+    }
+
+    void due(String call, String got, String want) {
+        if (got.equals(want)) {
             passed++;
             return;
         }
         failed++;
-        System.out.println(call + " answered " + got + ", due is " + want);
+        System.out.println(sentence + call + " answered " + got + ", due is " + want);
     }
 
     void due(String call, boolean got, boolean want) {
@@ -22,6 +33,27 @@ final class Checks {
         System.out.println(name + ":");
         System.out.println(passed + " passed, " + failed + " failed");
         if (failed > 0) System.exit(1);
+    }
+
+    /** So many people without parents, each with 100 coins. */
+    static LetterHeirs founders(int n) {
+        LetterHeirs x = new LetterHeirs();
+        for (int i = 0; i < n; i++) x.person(LetterHeirs.NONE, LetterHeirs.NONE, 100);
+        return x;
+    }
+
+    /** Ends the life of one who LIVES on the next day. */
+    static void bury(LetterHeirs x, int person) {
+        x.set(0, person, x.look(2) + 1);
+        x.days(1);
+    }
+
+    /** Founders on the last DAY that there may be: a hundred calls. */
+    static LetterHeirs onLastDay(int n) {
+        LetterHeirs x = founders(n);
+        for (int i = 0; i < 99; i++) x.days(100);
+        x.days(99);
+        return x;
     }
 
     /** The empty tape has this text then. Signs are bytes: 0 to 255. */

@@ -50,19 +50,6 @@ public final class PromiseTests {
         t.close("PromiseTests");
     }
 
-    /** So many people without parents, each with 100 coins. */
-    private static LetterHeirs founders(int n) {
-        LetterHeirs x = new LetterHeirs();
-        for (int i = 0; i < n; i++) x.person(NONE, NONE, 100);
-        return x;
-    }
-
-    /** Ends the life of one who LIVES on the next day. */
-    private static void bury(LetterHeirs x, int person) {
-        x.set(0, person, x.look(2) + 1);
-        x.days(1);
-    }
-
     private static void p01NewObject() {
         LetterHeirs x = new LetterHeirs();
         int[] due = {0, 0, 0, 1, 0, 0, 0, 0, 0, 268435455, 0};
@@ -79,7 +66,7 @@ public final class PromiseTests {
     }
 
     private static void p02State() {
-        LetterHeirs x = founders(2);
+        LetterHeirs x = Checks.founders(2);
         t.due("2 first", x.state(77), 0);
         t.due("2 second", x.state(-5), 77);
         t.due("2 look", x.look(6), -5);
@@ -114,7 +101,7 @@ public final class PromiseTests {
         t.due("3 born", x.of(2, 2), 7);
         int[] due = {NONE, 0, 0, 5, NONE, 1, 0, 0, 0};
         for (int what = 3; what < 12; what++) t.due("3 of " + what, x.of(2, what), due[what - 3]);
-        bury(x, 0);
+        Checks.bury(x, 0);
         t.due("3 a dead parent", x.person(NONE, 0, 0), 3);
         for (int i = 4; i < 12; i++) t.due("3 number", x.person(NONE, NONE, i), i);
         t.due("3 thirteenth", x.person(NONE, NONE, 0), NONE);
@@ -122,7 +109,7 @@ public final class PromiseTests {
     }
 
     private static void p04Set() {
-        LetterHeirs x = founders(2);
+        LetterHeirs x = Checks.founders(2);
         x.days(10);
         t.due("4 dies today", x.set(0, 0, 10), false);
         t.due("4 refused forgets nothing", x.look(8), 8);
@@ -153,13 +140,13 @@ public final class PromiseTests {
         t.due("4 what -1", x.set(-1, 0, 1), false);
         t.due("4 not there", x.set(1, 2, 1), false);
         t.due("4 none", x.set(1, -1, 1), false);
-        bury(x, 1);
+        Checks.bury(x, 1);
         t.due("4 who does not live", x.set(1, 1, 1), false);
         t.due("4 nor dies again", x.set(0, 1, 500), false);
     }
 
     private static void p05Own() {
-        LetterHeirs x = founders(3);
+        LetterHeirs x = Checks.founders(3);
         t.due("5 own", x.own(27, 1), true);
         t.due("5 owner", x.letter(27, 0), 1);
         t.due("5 line", x.look(5), 1);
@@ -179,7 +166,7 @@ public final class PromiseTests {
         t.due("5 person 3", x.own(0, 3), false);
         t.due("5 person -2", x.own(0, -2), false);
         t.due("5 refused forgets nothing", x.look(8), 1);
-        bury(x, 2);
+        Checks.bury(x, 2);
         t.due("5 who does not live", x.own(0, 2), false);
     }
 
@@ -233,7 +220,7 @@ public final class PromiseTests {
     }
 
     private static void lawFault(String text, int fault, int place) {
-        LetterHeirs x = founders(3);
+        LetterHeirs x = Checks.founders(3);
         Checks.law(x, "heir 7;");
         t.due("8 law '" + text + "'", Checks.law(x, text), NONE);
         t.due("8 fault of '" + text + "'", x.fault(0), fault);
@@ -244,7 +231,7 @@ public final class PromiseTests {
     }
 
     private static void lawIs(String text, int lines, int worth) {
-        LetterHeirs x = founders(2);
+        LetterHeirs x = Checks.founders(2);
         t.due("8 law '" + text + "'", Checks.law(x, text), lines);
         t.due("8 no fault of '" + text + "'", x.fault(0), 0);
         t.due("8 lines of '" + text + "'", x.look(7), lines);
@@ -347,7 +334,7 @@ public final class PromiseTests {
         lawFault("heir 1 when " + Checks.times("(not ", 4) + "(1=1", 3, 32);
         lawFault("heir 1 when " + Checks.times("(not ", 4) + "1=1", 1, 35);
         lawFault("heir 1 when not 1=1 and " + Checks.times("(", 8) + "not 1=1", 3, 32);
-        LetterHeirs x = founders(2);
+        LetterHeirs x = Checks.founders(2);
         Checks.law(x, "heir 1;heir 2;");
         for (int i = 0; i < 9; i++) {
             t.due("8 a long law anew", Checks.law(x, "heir 1" + Checks.times("+1*2", 60) + "+" + i + ";"), 1);
@@ -361,7 +348,7 @@ public final class PromiseTests {
     }
 
     private static void willFault(String text, int fault, int place) {
-        LetterHeirs x = founders(3);
+        LetterHeirs x = Checks.founders(3);
         Checks.will(x, 1, "rest to 2;");
         t.due("8 will '" + text + "'", Checks.will(x, 1, text), NONE);
         t.due("8 fault of '" + text + "'", x.fault(0), fault);
@@ -374,7 +361,7 @@ public final class PromiseTests {
 
     private static void p08Will() {
         String row = "abcdefghijklmnopqrstuvwxyz.,";
-        LetterHeirs x = founders(4);
+        LetterHeirs x = Checks.founders(4);
         t.due("8 will", Checks.will(x, 1, "leave\"" + row + "\"to 2;rest to 0003 if 0;"), 2);
         t.due("8 lines", x.of(1, 11), 2);
         t.due("8 others have none", x.of(0, 11), 0);
@@ -426,7 +413,7 @@ public final class PromiseTests {
         willFault(Checks.times("rest to 2;", 12) + "\nleave", 3, 121);
         willFault(Checks.times("rest to 2;", 12) + "rest", 3, 120);
         willFault(Checks.times("rest to 2;", 12) + "to", 1, 120);
-        bury(x, 3);
+        Checks.bury(x, 3);
         t.due("8 of who does not live", Checks.will(x, 3, "?"), NONE);
         t.due("8 is no fault", x.fault(0), 0);
         t.due("8 one who does not live may be named", Checks.will(x, 1, "rest to 3;"), 1);
@@ -464,7 +451,7 @@ public final class PromiseTests {
     }
 
     private static void p08Text() {
-        LetterHeirs x = founders(1);
+        LetterHeirs x = Checks.founders(1);
         x.days(3);
         t.due("8 no such one", x.text(3, 0), NONE);
         t.due("8 nor below", x.text(-1, 0), NONE);
@@ -482,7 +469,7 @@ public final class PromiseTests {
     }
 
     private static void p09Fault() {
-        LetterHeirs x = founders(1);
+        LetterHeirs x = Checks.founders(1);
         t.due("9 before", x.fault(0), 0);
         Checks.law(x, "heir ?");
         t.due("9 fault", x.fault(0), 1);
@@ -502,7 +489,7 @@ public final class PromiseTests {
     }
 
     private static void p10Wed() {
-        LetterHeirs x = founders(5);
+        LetterHeirs x = Checks.founders(5);
         x.person(0, 1, 0);
         x.person(2, 0, 0);
         x.person(NONE, 1, 0);
@@ -521,16 +508,16 @@ public final class PromiseTests {
         t.due("10 has one", x.wed(6, 3), false);
         t.due("10 has one, turned", x.wed(3, 7), false);
         t.due("10 two more", x.wed(4, 3), true);
-        bury(x, 2);
+        Checks.bury(x, 2);
         t.due("10 who does not live", x.wed(2, 0), false);
-        bury(x, 3);
+        Checks.bury(x, 3);
         t.due("10 a widow", x.wed(4, 0), true);
         t.due("10 who died keeps his", x.of(3, 7), 4);
         t.due("10 kin by both", x.kin(3, 0), 2);
     }
 
     private static void p11Part() {
-        LetterHeirs x = founders(4);
+        LetterHeirs x = Checks.founders(4);
         x.wed(0, 1);
         x.wed(2, 3);
         t.due("11 not his", x.part(0, 2), false);
@@ -544,13 +531,13 @@ public final class PromiseTests {
         t.due("11 kin", x.kin(0, 1), 99);
         t.due("11 kept", x.look(8), 3);
         t.due("11 again", x.part(0, 1), false);
-        bury(x, 2);
+        Checks.bury(x, 2);
         t.due("11 from who does not live", x.part(2, 3), false);
         t.due("11 from who does not live, turned", x.part(3, 2), false);
     }
 
     private static void p12Lend() {
-        LetterHeirs x = founders(4);
+        LetterHeirs x = Checks.founders(4);
         x.own(0, 0);
         x.own(1, 0);
         x.days(5);
@@ -586,12 +573,12 @@ public final class PromiseTests {
         x.days(1);
         t.due("12 behind it", x.letter(1, 1), NONE);
         t.due("12 the owner can again", x.of(0, 10), 2);
-        bury(x, 2);
+        Checks.bury(x, 2);
         t.due("12 to who does not live", x.lend(1, 2, 1, 0), false);
     }
 
     private static void p13Give() {
-        LetterHeirs x = founders(4);
+        LetterHeirs x = Checks.founders(4);
         x.own(5, 0);
         t.due("13 no owner", x.give(4, 1), false);
         t.due("13 himself", x.give(5, 0), false);
@@ -609,12 +596,12 @@ public final class PromiseTests {
         t.due("13 lent", x.give(5, 3), false);
         t.due("13 lent to him", x.give(5, 2), false);
         x.own(5, 1);
-        bury(x, 2);
+        Checks.bury(x, 2);
         t.due("13 to who does not live", x.give(5, 2), false);
     }
 
     private static void p14Duel() {
-        LetterHeirs x = founders(4);
+        LetterHeirs x = Checks.founders(4);
         x.own(0, 0);
         t.due("14 himself", x.duel(0, 0, 0), NONE);
         t.due("14 neither owns it", x.duel(1, 2, 0), NONE);
@@ -648,12 +635,12 @@ public final class PromiseTests {
         // the draw counts without sign: (MIN_VALUE * 1664525 + 1013904223) >>> 8 is 12349171, modulo 103 that is 78
         t.due("14 without sign", x.duel(0, 3, 0), 3);
         t.due("14 state then", x.look(6), Integer.MIN_VALUE * 1664525 + 1013904223);
-        bury(x, 1);
+        Checks.bury(x, 1);
         t.due("14 who does not live", x.duel(3, 1, 0), NONE);
     }
 
     private static void p15Sign() {
-        LetterHeirs x = founders(4);
+        LetterHeirs x = Checks.founders(4);
         x.own(0, 0);
         x.own(1, 1);
         x.own(2, 2);
@@ -679,13 +666,13 @@ public final class PromiseTests {
         x.own(3, 3);
         t.due("15 as it was then", x.deed(0, 3), 11);
         t.due("15 no letter forged", x.sign(0, 15), 0);
-        bury(x, 1);
+        Checks.bury(x, 1);
         t.due("15 one does not live", x.sign(0, 3), NONE);
         t.due("15 the rest stays", x.deed(0, 2), 15);
     }
 
     private static void p16Days() {
-        LetterHeirs x = founders(3);
+        LetterHeirs x = Checks.founders(3);
         t.due("16 none", x.days(0), NONE);
         t.due("16 below", x.days(-1), NONE);
         t.due("16 above", x.days(101), NONE);
@@ -706,7 +693,7 @@ public final class PromiseTests {
     }
 
     private static void p16Deaths() {
-        LetterHeirs x = founders(4);
+        LetterHeirs x = Checks.founders(4);
         x.wed(0, 1);
         x.own(0, 0);
         x.own(1, 0);
@@ -737,7 +724,7 @@ public final class PromiseTests {
         t.due("16 frail", x.days(1), 2);
         t.due("16 one draw", x.look(6), 1013904223);
         t.due("16 that day", x.of(2, 3), 3);
-        LetterHeirs y = founders(2);
+        LetterHeirs y = Checks.founders(2);
         y.set(1, 0, 563);
         y.set(1, 1, 0);
         t.due("16 not below", y.days(1), 0);
@@ -752,7 +739,7 @@ public final class PromiseTests {
     }
 
     private static void p17Of() {
-        LetterHeirs x = founders(3);
+        LetterHeirs x = Checks.founders(3);
         x.person(0, 1, 42);
         x.wed(1, 2);
         x.own(0, 0);
@@ -770,7 +757,7 @@ public final class PromiseTests {
         t.due("17 not there", x.of(4, 0), -2);
         t.due("17 none", x.of(NONE, 0), -2);
         Checks.will(x, 1, "rest to 0;rest to 2;");
-        bury(x, 1);
+        Checks.bury(x, 1);
         t.due("17 does not live", x.of(1, 8), 0);
         t.due("17 writes nothing", x.of(1, 10), 0);
         t.due("17 owns nothing", x.of(1, 9), 0);
@@ -780,7 +767,7 @@ public final class PromiseTests {
     }
 
     private static void p18Kin() {
-        LetterHeirs x = founders(3);
+        LetterHeirs x = Checks.founders(3);
         x.person(0, 1, 0);
         x.person(NONE, 3, 0);
         x.person(1, NONE, 0);
@@ -799,17 +786,17 @@ public final class PromiseTests {
         x.wed(2, 5);
         t.due("18 spouse", x.kin(2, 5), 1);
         t.due("18 by the spouse", x.kin(2, 3), 3);
-        bury(x, 5);
+        Checks.bury(x, 5);
         t.due("18 whose spouse he is", x.kin(2, 5), 1);
         t.due("18 over who does not live", x.kin(2, 3), 3);
         t.due("18 of who does not live", x.kin(5, 4), 3);
-        LetterHeirs y = founders(1);
+        LetterHeirs y = Checks.founders(1);
         for (int i = 1; i < 12; i++) y.person(NONE, i - 1, 0);
         t.due("18 the longest way", y.kin(0, 11), 11);
     }
 
     private static void p19Letter() {
-        LetterHeirs x = founders(4);
+        LetterHeirs x = Checks.founders(4);
         x.person(0, 1, 0);
         x.own(7, 0);
         x.own(7, 1);
@@ -837,7 +824,7 @@ public final class PromiseTests {
         t.due("19 value of i", x.letter(8, 5), 1);
         t.due("19 value of a", x.letter(0, 5), 1);
         t.due("19 value of b", x.letter(1, 5), 0);
-        bury(x, 4);
+        Checks.bury(x, 4);
         t.due("19 value for who lives", x.letter(7, 5), 4);
         x.set(4, 0, 0);
         x.own(7, 1);
@@ -847,7 +834,7 @@ public final class PromiseTests {
     }
 
     private static void p20Deed() {
-        LetterHeirs x = founders(5);
+        LetterHeirs x = Checks.founders(5);
         x.own(0, 4);
         x.own(1, 3);
         x.own(2, 4);
@@ -902,7 +889,7 @@ public final class PromiseTests {
     }
 
     private static void p22Book() {
-        LetterHeirs x = founders(2);
+        LetterHeirs x = Checks.founders(2);
         x.days(3);
         x.own(9, 1);
         int[] line = {9, NONE, 1, 3, 0};
@@ -931,7 +918,7 @@ public final class PromiseTests {
     }
 
     private static void p23Weddings() {
-        LetterHeirs x = founders(6);
+        LetterHeirs x = Checks.founders(6);
         x.own(0, 1);
         x.own(1, 3);
         Checks.deed(x, "a");
@@ -961,11 +948,11 @@ public final class PromiseTests {
         x.wed(0, 5);
         // 0 has a spouse now; 1 is near 6 by him himself
         weddingsAre("who has a spouse", x, 6, 0, 1, 1, 2, NONE, NONE);
-        bury(x, 1);
+        Checks.bury(x, 1);
         weddingsAre("who does not live", x, 1, 0, NONE, NONE, NONE, NONE, NONE);
         x.own(0, 3);
         weddingsAre("not by who does not live", x, 6, 1, 1, 2, 3, NONE, NONE);
-        LetterHeirs y = founders(4);
+        LetterHeirs y = Checks.founders(4);
         y.set(4, 0, 3);
         y.own(0, 3);
         Checks.deed(y, "a");
@@ -982,7 +969,7 @@ public final class PromiseTests {
 
     /** Twelve PEOPLE, of whom nobody is kin: every pair can wed. */
     private static void p23Order() {
-        LetterHeirs x = founders(12);
+        LetterHeirs x = Checks.founders(12);
         x.own(0, 10);
         x.own(1, 11);
         Checks.deed(x, "a");
@@ -1000,7 +987,7 @@ public final class PromiseTests {
         // 10 and 11 have each other; 9 may wed 0
         weddingsAre("no second way", x, 0, 2, NONE, NONE, NONE, NONE, NONE);
         x.image(false);
-        LetterHeirs y = founders(10);
+        LetterHeirs y = Checks.founders(10);
         y.person(4, 5, 0);
         y.person(6, 7, 0);
         y.own(0, 8);
@@ -1014,13 +1001,13 @@ public final class PromiseTests {
         weddingsAre("without one of them", y, 10, 0, 2, 5, 8, 9, 10);
         weddingsAre("the lesser person of the second is above", y, 5, 0, 2, 5, 8, 9, 10);
         weddingsAre("of another house", y, 6, 0, 2, 6, 8, 7, 9);
-        bury(y, 7);
+        Checks.bury(y, 7);
         weddingsAre("of a smaller one", y, 6, 0, 2, 6, 8, 9, 11);
         weddingsAre("of the child", y, 11, 0, 2, 6, 8, 9, 11);
     }
 
     private static void p24WhenCan() {
-        LetterHeirs x = founders(4);
+        LetterHeirs x = Checks.founders(4);
         x.days(2);
         x.own(0, 0);
         x.own(1, 1);
@@ -1054,13 +1041,13 @@ public final class PromiseTests {
         t.due("24 nothing stays", x.look(1), 15);
         t.due("24 state stays", x.look(6), 0);
         t.due("24 day stays", x.look(2), 2);
-        bury(x, 3);
+        Checks.bury(x, 3);
         t.due("24 does not live", x.whenCan(3, 0), NONE);
     }
 
     /** Twelve PEOPLE, all LETTERS and DEEDS and lines that there may be: the last of each counts, too. */
     private static void fullHouse() {
-        LetterHeirs x = founders(12);
+        LetterHeirs x = Checks.founders(12);
         for (int letter = 0; letter < 28; letter++) x.own(letter, 11 - letter % 12);
         for (int deed = 0; deed < 8; deed++) Checks.deed(x, deed < 7 ? "abcdefgh" : "lz");
         t.due("19 who can write the last one's", x.letter(0, 3), 2048);
@@ -1106,7 +1093,7 @@ public final class PromiseTests {
 
     /** The letter a is that of 0; of three deeds all want it, two of them another one, too. */
     private static LetterHeirs oneOwner() {
-        LetterHeirs x = founders(2);
+        LetterHeirs x = Checks.founders(2);
         x.own(0, 0);
         Checks.deed(x, "a");
         Checks.deed(x, "ab");
@@ -1116,7 +1103,7 @@ public final class PromiseTests {
 
     /** A DEED that all twelve must sign. */
     private static void p20Twelve() {
-        LetterHeirs x = founders(12);
+        LetterHeirs x = Checks.founders(12);
         for (int letter = 0; letter < 12; letter++) x.own(letter, letter);
         Checks.deed(x, "abcdefghijkl");
         Checks.deed(x, "bcdefghijkl");
@@ -1124,13 +1111,13 @@ public final class PromiseTests {
         t.due("20 all are needed", x.deed(0, 7), 4095);
         t.due("20 eleven", x.deed(1, 5), 4094);
         t.due("20 eleven are needed", x.deed(1, 7), 4094);
-        bury(x, 3);
+        Checks.bury(x, 3);
         t.due("20 no longer", x.deed(0, 5), NONE);
         t.due("20 nobody is needed then", x.deed(0, 7), 0);
     }
 
     private static void p25Hand() {
-        LetterHeirs x = founders(3);
+        LetterHeirs x = Checks.founders(3);
         x.own(0, 0);
         x.own(27, 0);
         x.own(1, 1);
@@ -1145,12 +1132,12 @@ public final class PromiseTests {
         t.due("25 below", x.hand(-1), NONE);
         x.lend(1, 2, 5, 0);
         t.due("25 by a loan", x.hand(3), 4);
-        bury(x, 2);
+        Checks.bury(x, 2);
         t.due("25 who lives", x.hand(1), 1);
     }
 
     private static void p26Inherit() {
-        LetterHeirs x = founders(5);
+        LetterHeirs x = Checks.founders(5);
         x.own(0, 0);
         x.own(1, 0);
         x.own(2, 0);
@@ -1176,14 +1163,14 @@ public final class PromiseTests {
         t.due("26 by a will", x.inherit(0, 1, 1), 1);
         t.due("26 the rest", x.inherit(0, 0, 0), 2);
         t.due("26 the rest too", x.inherit(0, 2, 0), 2);
-        bury(x, 3);
+        Checks.bury(x, 3);
         t.due("26 who is behind if does not live", x.inherit(0, 1, 0), 2);
-        bury(x, 2);
+        Checks.bury(x, 2);
         t.due("26 the heir does not live: a later line", x.inherit(0, 1, 0), 1);
         t.due("26 a later line for a", x.inherit(0, 0, 0), 1);
         t.due("26 no line for c: the law", x.inherit(0, 2, 0), 4);
         t.due("26 not by the will", x.inherit(0, 2, 1), 0);
-        LetterHeirs y = founders(2);
+        LetterHeirs y = Checks.founders(2);
         y.own(0, 0);
         y.days(3);
         y.person(NONE, NONE, 0);
@@ -1199,7 +1186,7 @@ public final class PromiseTests {
     }
 
     private static void p27Worth() {
-        LetterHeirs x = founders(3);
+        LetterHeirs x = Checks.founders(3);
         x.days(6);
         x.person(0, 1, 77);
         x.set(2, 3, 8);
@@ -1239,7 +1226,7 @@ public final class PromiseTests {
         t.due("27 not there", x.worth(9, 0, 4), 0);
         t.due("27 letter 28", x.worth(0, 1, 28), 0);
         t.due("27 letter -1", x.worth(0, 1, -1), 0);
-        bury(x, 1);
+        Checks.bury(x, 1);
         t.due("27 heir does not live", x.worth(0, 1, 4), 0);
         t.due("27 who leaves does not live", x.worth(1, 0, 4), 0);
         t.due("27 both live", x.worth(0, 3, 4), 9);
@@ -1252,7 +1239,7 @@ public final class PromiseTests {
     }
 
     private static void p28Silent() {
-        LetterHeirs x = founders(4);
+        LetterHeirs x = Checks.founders(4);
         x.own(0, 0);
         x.own(1, 1);
         x.own(2, 0);
@@ -1275,12 +1262,12 @@ public final class PromiseTests {
         t.due("28 a loan stays", x.silent(1), 0);
         t.due("28 not there", x.silent(4), NONE);
         t.due("28 none", x.silent(NONE), NONE);
-        bury(x, 2);
+        Checks.bury(x, 2);
         t.due("28 does not live", x.silent(2), NONE);
     }
 
     private static void p29Trace() {
-        LetterHeirs x = founders(3);
+        LetterHeirs x = Checks.founders(3);
         x.own(3, 0);
         x.own(4, 0);
         x.give(3, 1);
@@ -1304,7 +1291,7 @@ public final class PromiseTests {
     }
 
     private static void p30Best() {
-        LetterHeirs x = founders(4);
+        LetterHeirs x = Checks.founders(4);
         x.own(0, 0);
         x.own(1, 0);
         x.own(2, 2);
@@ -1326,16 +1313,16 @@ public final class PromiseTests {
         // a is lent to 3: c must come to him
         t.due("30 loans as they are", x.best(2, 0), 3);
         t.due("30 with the loan", x.best(2, 1), 2);
-        bury(x, 3);
-        bury(x, 1);
-        bury(x, 2);
+        Checks.bury(x, 3);
+        Checks.bury(x, 1);
+        Checks.bury(x, 2);
         t.due("30 nobody else", x.best(0, 0), NONE);
         t.due("30 not even how many", x.best(0, 1), NONE);
         t.due("30 does not live", x.best(1, 0), NONE);
     }
 
     private static void p31Dumb() {
-        LetterHeirs x = founders(4);
+        LetterHeirs x = Checks.founders(4);
         t.due("31 all", x.dumb(), 15);
         x.own(0, 0);
         t.due("31 one can", x.dumb(), 14);
@@ -1343,12 +1330,12 @@ public final class PromiseTests {
         t.due("31 his spouse", x.dumb(), 12);
         x.lend(0, 2, 4, 0);
         t.due("31 by a loan", x.dumb(), 11);
-        bury(x, 3);
+        Checks.bury(x, 3);
         t.due("31 who lives", x.dumb(), 3);
     }
 
     private static void p32Undo() {
-        LetterHeirs x = founders(4);
+        LetterHeirs x = Checks.founders(4);
         x.own(0, 0);
         x.own(1, 1);
         x.state(5);
@@ -1415,7 +1402,7 @@ public final class PromiseTests {
     }
 
     private static void p33Image() {
-        LetterHeirs x = founders(3);
+        LetterHeirs x = Checks.founders(3);
         t.due("33 none", x.image(false), false);
         x.own(0, 0);
         Checks.law(x, "heir 2;");
@@ -1479,7 +1466,7 @@ public final class PromiseTests {
 
     /** What is told anew after the taking is as it was, row by row. */
     private static void p33All() {
-        LetterHeirs x = founders(4);
+        LetterHeirs x = Checks.founders(4);
         x.own(0, 0);
         x.own(1, 0);
         x.own(2, 1);
@@ -1517,7 +1504,7 @@ public final class PromiseTests {
         t.due("33 law, second line", x.worth(1, 0, 2), 11);
         t.due("33 will", x.inherit(0, 0, 0), 2);
         t.due("33 by the will", x.inherit(0, 0, 1), 1);
-        bury(x, 1);
+        Checks.bury(x, 1);
         t.due("33 with who is behind if", x.inherit(0, 0, 1), 0);
         t.due("33 a new one", x.person(0, 2, 1), 4);
         x.set(1, 4, 9999);
@@ -1532,7 +1519,7 @@ public final class PromiseTests {
     }
 
     private static void p34Look() {
-        LetterHeirs x = founders(4);
+        LetterHeirs x = Checks.founders(4);
         x.own(0, 0);
         x.own(27, 1);
         Checks.law(x, "heir 1;");
