@@ -229,6 +229,9 @@ public final class ThoughtTests {
         t.due("on the last DAY", y.whenCan(0, 0), 9999);
         t.due("never", y.whenCan(1, 0), NONE);
         t.due("today stays", y.look(2), 9999);
+        // the document leaves open what comes behind DAY 9999: days are counted on, as those of a LOAN are
+        y.lend(0, 1, 2, 0);
+        t.due("behind DAY 9999", y.whenCan(0, 0), 10002);
     }
 
     private static void whenFarthest() {
